@@ -14,8 +14,10 @@ public final class HullsTest {
         pump();
         readings();
         draughts();
+        widthsAtSeams();
         heel();
         ranks();
+        fullYard();
         check.end();
     }
 
@@ -289,6 +291,40 @@ public final class HullsTest {
         check.is("18 no frames", 0, yard.heelOf(1));
         check.fails("18 hull", IndexOutOfBoundsException.class, () -> yard.heelOf(2));
         check.fails("18 negative hull", IndexOutOfBoundsException.class, () -> yard.heelOf(-1));
+    }
+
+    /** Six hulls of eight frames each: the edges of all that is counted through. */
+    private static void fullYard() {
+        PuddleBoatyard yard = Yards.withHulls(8, 8, 8, 8, 8, 8);
+        check.is("4 eight frames", 0, yard.mirror(5));
+        check.is("15 eight frames", 80, yard.weightOf(5));
+        check.is("18 eight frames", 0, yard.heelOf(5));
+        draughtsAre(yard, 5, 2);
+        check.is("19 sixth", 5, yard.hullAtRank(5));
+        check.is("43 six", 6, yard.hullsIn(PuddleBoatyard.BUILT));
+        check.is("45 six", 80.0, yard.meanWeight());
+        yard.setTide(0, 50);
+        for (int hull = 0; hull < 6; hull++) {
+            check.is("6 each", 2, yard.launch(hull));
+            yard.addOrder(8, 0, 100);
+        }
+        check.is("25 none sinks", 0, yard.pass(12));
+        check.is("14 seven seams", 42, yard.waterIn(5));
+        check.is("41 six", 6 * 88, yard.bestDelivery());
+        check.is("25 all sink", 6, yard.pass(99));
+    }
+
+    /** The four widths at a seam count each for itself. */
+    private static void widthsAtSeams() {
+        PuddleBoatyard yard = Yards.withHulls(0);
+        yard.addFrame(0, 10, 1);
+        yard.addFrame(0, 2, 5);
+        yard.addFrame(0, 20, 7);
+        // 18 at the first seam and 34 at the second one: 26 a draught, for a weight of 45 and the cargo.
+        yard.setCargo(0, 26 * 9 - 45);
+        draughtsAre(yard, 0, 9);
+        yard.setCargo(0, 26 * 9 - 45 + 1);
+        draughtsAre(yard, 0, 10);
     }
 
     /** Promise 19. */

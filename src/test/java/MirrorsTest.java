@@ -28,6 +28,9 @@ public final class MirrorsTest {
         check.is("20 symmetric", true, yard.isSymmetric(1));
         check.is("20 last frame", false, yard.isSymmetric(2));
         check.is("20 sides, not ends", false, yard.isSymmetric(3));
+        PuddleBoatyard full = Yards.withHulls(8, 8);
+        check.is("20 eight frames", true, full.isSymmetric(0));
+        check.is("21 eight frames", true, full.isReflectionOf(0, 1));
         check.fails("20 hull", IndexOutOfBoundsException.class, () -> yard.isSymmetric(4));
         check.fails("20 negative hull", IndexOutOfBoundsException.class, () -> yard.isSymmetric(-1));
     }
@@ -44,6 +47,8 @@ public final class MirrorsTest {
         check.is("21 shorter", false, yard.isReflectionOf(2, 0));
         check.is("21 other order", false, yard.isReflectionOf(0, 3));
         check.is("21 one width", false, yard.isReflectionOf(0, 4));
+        PuddleBoatyard first = yardOf(new int[][] {{1, 2}, {3, 4}}, new int[][] {{2, 2}, {4, 3}});
+        check.is("21 one width of the first frame", false, first.isReflectionOf(0, 1));
         check.is("21 no frames", true, yard.isReflectionOf(5, 5));
         check.is("21 no frames and some", false, yard.isReflectionOf(5, 0));
         check.fails("21 hull", IndexOutOfBoundsException.class, () -> yard.isReflectionOf(6, 0));

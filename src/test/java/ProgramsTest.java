@@ -9,6 +9,7 @@ public final class ProgramsTest {
         typing();
         everyCommand();
         malformed();
+        earlierPrograms();
         failing();
         fullBuffer();
         check.end();
@@ -135,6 +136,27 @@ public final class ProgramsTest {
         check.is("50 is kept", 5, yard.errorPosition());
         check.fails("49 second", IllegalArgumentException.class, () -> Yards.run(yard, "z"));
         check.is("50 the last one", 0, yard.errorPosition());
+    }
+
+    /** Promise 49: what an earlier program left behind the end of the buffer does not count. */
+    private static void earlierPrograms() {
+        String[] texts = {"hul", "hull;", "hull;mirror", "hull;mirror "};
+        for (String text : texts) {
+            PuddleBoatyard yard = new PuddleBoatyard();
+            check.is("49 earlier", 2, Yards.run(yard, "hull;mirror 0"));
+            check.fails("49 " + text, IllegalArgumentException.class, () -> Yards.run(yard, text));
+            check.is("50 " + text, text.length(), yard.errorPosition());
+        }
+        PuddleBoatyard yard = new PuddleBoatyard();
+        check.is("49 earlier", 1, Yards.run(yard, "hours 12"));
+        check.is("49 fewer digits", 1, Yards.run(yard, "hours 3"));
+        check.is("26 hour", 15, yard.hour());
+        check.fails("49 too early at the sixtieth", IllegalArgumentException.class,
+                () -> Yards.run(yard, "hull;hull;hull;hull;hull;hull;hull;hull;hull;hull;hull;hour"));
+        check.is("50 at the end", 59, yard.errorPosition());
+        check.fails("49 too early at the sixtieth", IllegalArgumentException.class,
+                () -> Yards.run(yard, "hours 1;hull;hull;hull;hull;hull;hull;hull;hull;hull;tide 01"));
+        check.is("50 behind the sixtieth", 60, yard.errorPosition());
     }
 
     /** Promises 49 and 51: a program that fails changes nothing but what is remembered. */

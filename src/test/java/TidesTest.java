@@ -119,6 +119,9 @@ public final class TidesTest {
         yard.setTide(6, 24);
         yard.setCargo(0, 221);
         waitIs(yard, 0, 11);
+        yard.setTide(9, 24);
+        yard.setTide(0, 25);
+        waitIs(yard, 0, 2);
         waitIs(yard, 2, "throws NoSuchElementException");
         waitIs(yard, 3, "throws NoSuchElementException");
         yard.setCargo(4, 381);

@@ -8,6 +8,7 @@ public final class UndoTest {
     public static void main(String[] args) {
         everyModification();
         depth();
+        orders();
         programs();
         whatIsNotUndone();
         failuresAreNoModifications();
@@ -94,6 +95,25 @@ public final class UndoTest {
             check.is("52 slip", left, yard.slipLength(0));
         }
         check.fails("52 first was too long ago", IllegalStateException.class, yard::undo);
+    }
+
+    /** Promise 52: an order comes back with all that it asks for. */
+    private static void orders() {
+        PuddleBoatyard yard = Yards.withHulls(2, 3);
+        yard.setTide(0, 50);
+        yard.launch(0);
+        yard.launch(1);
+        yard.addOrder(2, 1, 100);
+        yard.addOrder(3, 9, 200);
+        yard.pass(11);
+        check.is("37 late", 90, yard.deliver(0, 0));
+        check.is("52 taken back", 7, yard.undo());
+        check.is("52 nothing paid", 0L, yard.paidCoins());
+        check.is("52 first order", 90, yard.coinsFor(0));
+        check.is("52 second order", 198, yard.coinsFor(1));
+        check.fails("52 its frames", IllegalStateException.class, () -> yard.deliver(0, 1));
+        check.is("52 in their places", 1, yard.orderAt(1));
+        check.is("37 second order", 198, yard.deliver(1, 1));
     }
 
     /** Promises 49 and 52: a program is one modification. */

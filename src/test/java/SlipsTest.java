@@ -47,6 +47,10 @@ public final class SlipsTest {
         PuddleBoatyard chain = Yards.withHulls(2, 2, 2, 8);
         setSlips(chain, 8, 2, 2, 2);
         planIs("moving for the last one", chain, 4, 6);
+        // Nobody can make room for the last hull: a search that asks a slip twice loses the third one.
+        PuddleBoatyard circle = Yards.withHulls(2, 3, 7, 3);
+        setSlips(circle, 6, 8, 2, 2);
+        planIs("no room for the last one", circle, 3, 8);
         PuddleBoatyard none = Yards.withHulls(2, 3, 4);
         setSlips(none, 0, 1, 1, 0);
         planIs("no slip is long enough", none, 0, 1);

@@ -1036,7 +1036,7 @@ public final class PuddleBoatyard {
                 for (int slip = 0; slip < SLIPS; slip++) {
                     asked[slip] = false;
                 }
-                if (findsPlace(yard, hull, 0)) {
+                if (findsPlace(this, yard, hull, 0)) {
                     placed++;
                 }
             }
@@ -1044,15 +1044,15 @@ public final class PuddleBoatyard {
         }
 
         /** Each level asks a slip that was not asked before, so there are no more levels than slips. */
-        private boolean findsPlace(Yard yard, int hull, int depth) {
+        private static boolean findsPlace(SlipPlan plan, Yard yard, int hull, int depth) {
             if (depth >= SLIPS) {
                 return false;
             }
             for (int slip = 0; slip < SLIPS; slip++) {
-                if (!asked[slip] && fits(yard, hull, slip)) {
-                    asked[slip] = true;
-                    if (hullOn[slip] == NOBODY || findsPlace(yard, hullOn[slip], depth + 1)) {
-                        hullOn[slip] = hull;
+                if (!plan.asked[slip] && fits(yard, hull, slip)) {
+                    plan.asked[slip] = true;
+                    if (plan.hullOn[slip] == NOBODY || findsPlace(plan, yard, plan.hullOn[slip], depth + 1)) {
+                        plan.hullOn[slip] = hull;
                         return true;
                     }
                 }

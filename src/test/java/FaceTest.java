@@ -86,7 +86,10 @@ public final class FaceTest {
         classes.add(PuddleBoatyard.class);
         check.is("at most twelve classes", true, classes.size() <= 12);
         for (Class<?> type : classes) {
+            long fields = Arrays.stream(type.getDeclaredFields()).filter(f -> !Modifier.isStatic(f.getModifiers())).count();
+            check.is("at most twenty fields of " + type, true, fields <= 20);
             for (Method method : type.getDeclaredMethods()) {
+                check.is("at most seven parameters: " + method, true, method.getParameterCount() <= 7);
                 boolean ofFace = isPublic(method.getModifiers());
                 check.is("a name of its own: " + method, ofFace, names.contains(method.getName()));
             }
